@@ -23,7 +23,7 @@ public final class TypeBench {
 
     private static final int UNSEEN = 0;
     private static final int OPEN = 1;
-    private static final int DONE = 2;
+    private static final int SEEN = 2;
 
     private int made;
     private final Shapes shapes;
@@ -129,11 +129,11 @@ public final class TypeBench {
     public int frees(int a) throws NoSuchElementException {
         int wanted = leaderOf(a);
         Arrays.fill(mark, 0, made, UNSEEN);
-        mark[wanted] = DONE;
+        mark[wanted] = SEEN;
         int found = 0;
         for (int i = different - 1; i >= 0; i--) {
             int x = order[i];
-            if (mark[x] == DONE) {
+            if (mark[x] == SEEN) {
                 found += shapes.kinds[x] == FREE ? 1 : 0;
                 markParts(x);
             }
@@ -233,8 +233,8 @@ public final class TypeBench {
 
     private void markParts(int x) {
         if (shapes.hasParts(x)) {
-            mark[shapes.firsts[x]] = DONE;
-            mark[shapes.seconds[x]] = DONE;
+            mark[shapes.firsts[x]] = SEEN;
+            mark[shapes.seconds[x]] = SEEN;
         }
     }
 
@@ -326,7 +326,7 @@ public final class TypeBench {
 
     private void layDown(int x) {
         if (mark[x] == OPEN) {
-            mark[x] = DONE;
+            mark[x] = SEEN;
             tried[triedCount] = x;
             triedCount++;
         }

@@ -7,6 +7,8 @@ public final class LookTest {
         partsAreToldByTheLeastNumber();
         whatHasNoPartsIsRefused();
         countsAreToldJustNow();
+        manyDifferentOnesStayApart();
+        onesOfFarApartPartsStayApart();
         otherCountsAreMinusOne();
         wrongOnesAreRefused();
         checks.finish();
@@ -101,6 +103,44 @@ public final class LookTest {
         bench.pair(0, 0);
         bench.pair(2, 1);
         counts("of pairs, one made twice", bench, 8, 3, 0);
+    }
+
+    private static void manyDifferentOnesStayApart() {
+        TypeBench bench = new TypeBench();
+        int leaves = 15;
+        for (int i = 1; i < leaves; i++) {
+            bench.free();
+        }
+        for (int a = 0; a < leaves; a++) {
+            for (int b = 0; b < leaves; b++) {
+                bench.sum(a, b);
+                bench.pair(a, b);
+            }
+        }
+        int all = leaves + 2 * leaves * leaves;
+        counts("of all sums and pairs", bench, all, all, leaves - 1);
+        bench.join(1, leaves - 1);
+        int fewer = leaves - 1 + 2 * (leaves - 1) * (leaves - 1);
+        counts("of all after a join", bench, all, fewer, leaves - 2);
+    }
+
+    /** However the program looks for the same one: numbers far apart must not be mixed up. */
+    private static void onesOfFarApartPartsStayApart() {
+        TypeBench bench = new TypeBench();
+        int leaves = 260;
+        for (int i = 1; i < leaves; i++) {
+            bench.free();
+        }
+        for (int i = 1; i < leaves; i++) {
+            if (i <= 20 || i > leaves - 20) {
+                bench.pair(0, i);
+                bench.pair(i, 0);
+                bench.sum(0, i);
+                bench.sum(i, 0);
+            }
+        }
+        int all = bench.count(0);
+        counts("of parts far apart", bench, leaves + 4 * 39, all, leaves - 1);
     }
 
     private static void otherCountsAreMinusOne() {

@@ -9,19 +9,29 @@ import java.util.Set;
 /** Mixed runs of all calls against a model that does what the document says on plain trees. */
 public final class ModelTest {
     private static final Checks checks = new Checks();
-    private static final int RUNS = 3000;
+    private static final int SMALL_RUNS = 3000;
+    private static final int WIDE_RUNS = 40;
+    private static final int WIDE_CALLS = 400;
+    /** Wide runs build on the first types alone, because the model's trees would grow too great. */
+    private static final int WIDE_FIRST = 25;
 
     private long seed;
+    private final int first;
 
     public static void main(String[] args) {
-        for (int run = 0; run < RUNS; run++) {
-            new ModelTest(run).run("run " + run);
+        for (int run = 0; run < SMALL_RUNS; run++) {
+            ModelTest small = new ModelTest(run, Integer.MAX_VALUE);
+            small.run("run " + run, 10 + small.number(40));
+        }
+        for (int run = 0; run < WIDE_RUNS; run++) {
+            new ModelTest(run, WIDE_FIRST).run("wide run " + run, WIDE_CALLS);
         }
         checks.finish();
     }
 
-    private ModelTest(int run) {
+    private ModelTest(int run, int first) {
         seed = run * 7919L + 17;
+        this.first = first;
     }
 
     /** The same numbers in every run of the tests, so that a fault can be seen again. */
@@ -30,10 +40,9 @@ public final class ModelTest {
         return (int) ((seed >>> 33) % below);
     }
 
-    private void run(String name) {
+    private void run(String name, int calls) {
         TypeBench bench = new TypeBench();
         Model model = new Model();
-        int calls = 10 + number(40);
         for (int i = 0; i < calls; i++) {
             oneCall(name + " call " + i, bench, model);
         }
@@ -43,27 +52,34 @@ public final class ModelTest {
     private void oneCall(String name, TypeBench bench, Model model) {
         int a = someType(model);
         int b = someType(model);
-        switch (number(14)) {
-            case 0, 1 -> compare(name + " free()", bench::free, model::free);
-            case 2, 3 -> compare(name + " sum " + a + " " + b,
+        switch (number(16)) {
+            case 0, 1, 2 -> compare(name + " free()", bench::free, model::free);
+            case 3, 4, 5 -> compare(name + " sum " + a + " " + b,
                     () -> bench.sum(a, b), () -> model.whole(2, a, b));
-            case 4, 5 -> compare(name + " pair " + a + " " + b,
+            case 6, 7, 8 -> compare(name + " pair " + a + " " + b,
                     () -> bench.pair(a, b), () -> model.whole(3, a, b));
-            case 6, 7, 8, 9 -> compare(name + " join " + a + " " + b,
+            case 9, 10 -> compare(name + " join " + a + " " + b,
                     () -> bench.join(a, b), () -> model.join(a, b));
-            case 10 -> compareAll(name, bench, model);
-            case 11 -> clearSeldom(name, bench, model);
+            case 11 -> compareSeldom(name, bench, model);
+            case 12 -> clearSeldom(name, bench, model);
             default -> compareTwo(name, bench, model, a, b);
         }
     }
 
     private int someType(Model model) {
         int wide = number(30);
-        return wide == 0 ? -1 : wide == 1 ? model.types.size() : number(model.types.size());
+        int below = Math.min(first, model.types.size());
+        return wide == 0 ? -1 : wide == 1 ? model.types.size() : number(below);
+    }
+
+    private void compareSeldom(String name, TypeBench bench, Model model) {
+        if (number(4) == 0) {
+            compareAll(name, bench, model);
+        }
     }
 
     private void clearSeldom(String name, TypeBench bench, Model model) {
-        if (number(8) == 0) {
+        if (number(first == WIDE_FIRST ? 100 : 8) == 0) {
             compare(name + " clear()", bench::clear, model::clear);
         }
     }
@@ -81,6 +97,10 @@ public final class ModelTest {
             compare(name + " size " + a, () -> bench.size(a), () -> model.size(a));
             compare(name + " values " + a, () -> bench.values(a), () -> model.values(a));
             compare(name + " frees " + a, () -> bench.frees(a), () -> model.frees(a));
+            for (int b = 0; b < Math.min(i, 12); b++) {
+                compareTwo(name, bench, model, a, b);
+                compareTwo(name, bench, model, b, a);
+            }
         }
     }
 
