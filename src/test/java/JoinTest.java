@@ -17,22 +17,11 @@ public final class JoinTest {
     }
 
     private static void refused(TypeBench bench, int a, int b) {
-        String before = Checks.stateOf(bench);
-        checks.due("alike(" + a + ", " + b + ")", false, bench.alike(a, b));
-        checks.due("alike(" + b + ", " + a + ")", false, bench.alike(b, a));
-        checks.due("join(" + a + ", " + b + ")", false, bench.join(a, b));
-        checks.due("join(" + b + ", " + a + ")", false, bench.join(b, a));
-        checks.due("state after refused " + a + ", " + b, before, Checks.stateOf(bench));
+        checks.dueRefused("two", bench, a, b);
     }
 
     private static void joined(TypeBench bench, int a, int b) {
-        checks.due("alike(" + a + ", " + b + ")", true, bench.alike(a, b));
-        checks.due("alike(" + b + ", " + a + ")", true, bench.alike(b, a));
-        checks.due("join(" + a + ", " + b + ")", true, bench.join(a, b));
-        checks.due("same(" + a + ", " + b + ")", true, bench.same(a, b));
-        String after = Checks.stateOf(bench);
-        checks.due("join(" + a + ", " + b + ") again", true, bench.join(a, b));
-        checks.due("state after joining again", after, Checks.stateOf(bench));
+        checks.dueJoined("two", bench, a, b);
     }
 
     private static void aFreeOneBecomesWhatItIsJoinedWith() {

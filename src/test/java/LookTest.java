@@ -76,33 +76,27 @@ public final class LookTest {
         checks.dueThrow("part of joined ONE", Checks.NO_SUCH, () -> bench.part(f, true));
     }
 
-    private static void counts(String when, TypeBench bench, int types, int different, int frees) {
-        checks.due("count(0) " + when, types, bench.count(0));
-        checks.due("count(1) " + when, different, bench.count(1));
-        checks.due("count(2) " + when, frees, bench.count(2));
-    }
-
     private static void countsAreToldJustNow() {
         TypeBench bench = new TypeBench();
-        counts("of a new one", bench, 1, 1, 0);
+        checks.dueCounts("of a new one", bench, 1, 1, 0);
         bench.free();
         bench.free();
-        counts("of two free ones", bench, 3, 3, 2);
+        checks.dueCounts("of two free ones", bench, 3, 3, 2);
         bench.sum(1, 0);
         bench.sum(2, 0);
         bench.sum(1, 0);
-        counts("of sums, one made twice", bench, 6, 5, 2);
+        checks.dueCounts("of sums, one made twice", bench, 6, 5, 2);
         bench.alike(1, 2);
-        counts("after alike", bench, 6, 5, 2);
+        checks.dueCounts("after alike", bench, 6, 5, 2);
         bench.join(1, 2);
-        counts("after a join", bench, 6, 3, 1);
+        checks.dueCounts("after a join", bench, 6, 3, 1);
         bench.join(1, 3);
-        counts("after a join that can not be", bench, 6, 3, 1);
+        checks.dueCounts("after a join that can not be", bench, 6, 3, 1);
         bench.join(2, 0);
-        counts("after a join with ONE", bench, 6, 2, 0);
+        checks.dueCounts("after a join with ONE", bench, 6, 2, 0);
         bench.pair(0, 0);
         bench.pair(2, 1);
-        counts("of pairs, one made twice", bench, 8, 3, 0);
+        checks.dueCounts("of pairs, one made twice", bench, 8, 3, 0);
     }
 
     private static void manyDifferentOnesStayApart() {
@@ -118,10 +112,10 @@ public final class LookTest {
             }
         }
         int all = leaves + 2 * leaves * leaves;
-        counts("of all sums and pairs", bench, all, all, leaves - 1);
+        checks.dueCounts("of all sums and pairs", bench, all, all, leaves - 1);
         bench.join(1, leaves - 1);
         int fewer = leaves - 1 + 2 * (leaves - 1) * (leaves - 1);
-        counts("of all after a join", bench, all, fewer, leaves - 2);
+        checks.dueCounts("of all after a join", bench, all, fewer, leaves - 2);
     }
 
     /** However the program looks for the same one: numbers far apart must not be mixed up. */
@@ -140,7 +134,7 @@ public final class LookTest {
             }
         }
         int all = bench.count(0);
-        counts("of parts far apart", bench, leaves + 4 * 39, all, leaves - 1);
+        checks.dueCounts("of parts far apart", bench, leaves + 4 * 39, all, leaves - 1);
     }
 
     private static void otherCountsAreMinusOne() {

@@ -64,7 +64,7 @@ public final class MakingTest {
         }
         checks.dueThrow("free() at 1,000", Checks.ILLEGAL_STATE, () -> bench.free());
         checks.dueThrow("sum(0, 0) at 1,000", Checks.ILLEGAL_STATE, () -> bench.sum(0, 0));
-        checks.dueThrow("pair(998, 999) at 1,000", Checks.ILLEGAL_STATE, () -> bench.pair(998, 999));
+        checks.dueThrow("pair(9, 999) at 1,000", Checks.ILLEGAL_STATE, () -> bench.pair(9, 999));
         checks.dueThrow("sum(1000, 0) at 1,000", Checks.NO_SUCH, () -> bench.sum(1000, 0));
         checks.dueThrow("pair(0, -1) at 1,000", Checks.NO_SUCH, () -> bench.pair(0, -1));
         checks.due("count(0) at 1,000", 1000, bench.count(0));

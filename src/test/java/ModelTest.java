@@ -224,7 +224,8 @@ public final class ModelTest {
             return match(at(a), at(b), new HashMap<>(), new HashMap<>());
         }
 
-        private static boolean match(Tree left, Tree right, Map<Tree, Tree> to, Map<Tree, Tree> from) {
+        private static boolean match(
+                Tree left, Tree right, Map<Tree, Tree> to, Map<Tree, Tree> from) {
             Tree x = left.now();
             Tree y = right.now();
             if (x.kind != y.kind) {
